@@ -352,6 +352,11 @@ public final class BallBoundariesTest extends Sentences {
             due(text.substring(0, length), told(text.substring(0, length)),
                 isWhole ? statements : -1000 - length);
         }
+        // What was told before is no more, though it would end the statement.
+        for (String lacking : new String[] {"d", "d0", "d00", "p", "p0", "p01", "l", "l0"}) {
+            WithTheSameOne x = with(text);
+            due(lacking + " behind a ball", tell(x, lacking), -1000 - lacking.length());
+        }
     }
 
     private static void theFirstAndTheLastPlaceOfKindOne() {
@@ -360,6 +365,7 @@ public final class BallBoundariesTest extends Sentences {
         due("place 63 begins a statement", told("l0;".repeat(21) + "x"), -1063);
         due("the end of 63", told("l0;".repeat(20) + "d00"), -1063);
         due("the end of 64", told("l0;".repeat(21) + "d"), -1064);
+        due("the end of 64, only ; lacks", told("l0;".repeat(15) + "d00;".repeat(4) + "p01"), -1064);
         due("place 63 is a digit too many", told("l0;".repeat(20) + "d000"), -1063);
     }
 

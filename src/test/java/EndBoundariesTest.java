@@ -269,7 +269,10 @@ public final class EndBoundariesTest extends Sentences {
         due("one alone", plainOnes(1).fewest(0), 0);
         due("a chain", plainOnes(8, CHAIN).fewest(0), 0);
         due("all have", allBut().fewest(0), 0);
+        due("two alone", plainOnes(2).fewest(0), 1);
         due("two heaps", plainOnes(8, 1, 12, 23, 45, 56, 67).fewest(0), 1);
+        due("three alone, by ELDER", byTheLaw(2, plainOnes(3)).fewest(0), 2);
+        due("three alone, by TWO", byTheLaw(1, plainOnes(3)).fewest(0), 3);
         due("three heaps", plainOnes(8, 1, 12, 34, 45, 56).fewest(0), 2);
         due("four heaps", plainOnes(8, 1, 23, 45, 67).fewest(0), 3);
         due("five heaps", plainOnes(8, 1, 23, 45).fewest(0), -9);
@@ -290,6 +293,11 @@ public final class EndBoundariesTest extends Sentences {
 
     private static void theFirstSet() {
         due("of one", plainOnes(8, 1, 12, 23, 45, 56, 67).fewest(1), 4);
+        due("the least pair", plainOnes(2).fewest(1), 1);
+        // By TWO 6 hangs on 0 and 7 on 1 of six who have all; only they themselves come into a ring.
+        WithTheSameOne greatest = byTheLaw(1, allBut(16, 26, 36, 46, 56, 7, 27, 37, 47, 57, 67));
+        due("how many of the greatest pair", greatest.fewest(0), 1);
+        due("the greatest pair", greatest.fewest(1), 67);
         due("of two", plainOnes(5, 1, 23).fewest(1), 2);
         due("of three", plainOnes(8, 1, 23, 45, 67).fewest(1), 2);
         due("one that comes anyway is not among them", plainOnes(5, 1, 12, 34).fewest(1), 3);
@@ -319,8 +327,9 @@ public final class EndBoundariesTest extends Sentences {
         due("none", x.wanted(0, 6), -9);
         due("none, of two alone", x.wanted(6, 7), -9);
         due("-9 is no refusal", refused(x), 0);
-        WithTheSameOne cousins = with("d31;d31;");
-        due("cousins by nobody", cousins.wanted(0, 1), 1);
+        due("cousins by nobody", with("d31;d31;").wanted(0, 1), 1);
+        due("by the least pair, by nobody", with("d31;d31;d00;p12;").wanted(0, 2), 2);
+        due("by the greatest pair, by nobody", with("d00;".repeat(6) + "d31;d31;p57;").wanted(5, 6), 2);
     }
 
     private static void withKinds() {
@@ -333,6 +342,8 @@ public final class EndBoundariesTest extends Sentences {
         due("he brings once", with("d11;d00;d00;d00;d00;p01;p02;p03;p34;").wanted(1, 4), 2);
         // 5 hangs on 4, too: 3 brings 0 and 4, 4 brings 0 and 5, 0 brings 1 and 5.
         due("he brings last", with("d11;d00;d00;d00;d00;d00;p01;p03;p34;p45;").wanted(1, 5), 3);
+        // 0, who is proud of 3, brings 1 and 2, and then 2 brings 1 and 3.
+        due("by 0 and by another", with("d23;d00;d00;d00;p01;p02;p23;").wanted(1, 3), 2);
         due("who has brought already", spent().wanted(1, 3), -9);
         WithTheSameOne rested = spent();
         rested.night();
@@ -359,6 +370,9 @@ public final class EndBoundariesTest extends Sentences {
         due("one way", plainOnes(3, 1, 12).off(0, 2), 1);
         due("two ways", plainOnes(4, 1, 12, 3, 23).off(2, 0), 2);
         due("it and a way", plainOnes(3, 1, 12, 2).off(0, 2), 2);
+        due("the least pair and a way", plainOnes(3, 1, 12, 2).off(1, 0), 2);
+        due("the greatest pair and a way", plainOnes(8, 56, 57, 67).off(6, 7), 2);
+        due("both that lead to it", plainOnes(5, 1, 2, 12, 13, 14, 23, 24, 34).off(0, 3), 2);
         due("far ends of a chain", plainOnes(8, CHAIN).off(0, 7), 1);
         due("the greatest pair", plainOnes(8, 67).off(7, 6), 1);
         due("by TWO, two ways", byTheLaw(1, plainOnes(4, 1, 12, 3, 23)).off(0, 2), 1);

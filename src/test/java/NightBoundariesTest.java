@@ -306,6 +306,10 @@ public final class NightBoundariesTest extends Sentences {
             x.row(size + 1);
             due("none has danced", x.count(1), 0);
         }
+        due("of great numbers, turned or not", withRow(x, 76, 10, 35, 52, 64).cards(), 120);
+        for (int none : new int[] {0, 11, 77, 88, 99, 8, 80, 9, 90, 78, 87}) {
+            due("with " + none, withRow(x, 76, none).cards(), 0);
+        }
         WithTheSameOne chain = plainOnes(6, 1, 12, 23, 34, 45);
         due("one order", withRow(chain, 5, 4, 3, 2).cards(), 1);
         due("no order", withRow(chain, 5, 4, 3).cards(), 0);
