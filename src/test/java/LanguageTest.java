@@ -5,8 +5,10 @@ import java.lang.reflect.Method;
 import java.lang.reflect.Modifier;
 import java.nio.file.Files;
 import java.nio.file.Path;
+import java.util.HashMap;
 import java.util.HashSet;
 import java.util.List;
+import java.util.Map;
 import java.util.Set;
 import java.util.TreeSet;
 import java.util.regex.Matcher;
@@ -23,6 +25,10 @@ public final class LanguageTest {
         "restore()", "count(int)"));
     private static final List<String> FORBIDDEN = List.of("throw", "throws", "try", "catch", "synchronized",
         "assert", "import", "package", "->", "::", "System", "Object", "equals", "hashCode", "toString", "new int[0]");
+    private static final Set<String> LIBRARY = Set.of("Integer.bitCount", "Math.min", "Math.max");
+    private static final Pattern METHOD =
+        Pattern.compile("(?ms)^( {4}| {8})((?![\\s/*}])[^\n;=(]*?\\b(\\w+)\\([^\n;=]*\\)) \\{\n(.*?)^\\1\\}");
+    private static final Pattern CALLED = Pattern.compile("\\b(\\w+)\\(");
     private static int wrong = 0;
 
     private static void due(boolean holds, String what) {
@@ -100,12 +106,50 @@ public final class LanguageTest {
         for (int i = 0; i < source.length(); i++) {
             due(source.charAt(i) < 128, "a sign above 127 at " + i);
         }
-        Matcher method = Pattern.compile("(?ms)^( {4}| {8})[^\\s/*}][^\n;=]*\\) \\{\n(.*?)^\\1\\}").matcher(source);
+        Matcher named = Pattern.compile("\\b([A-Z]\\w*\\.\\w+)\\(").matcher(code);
+        while (named.find()) {
+            due(LIBRARY.contains(named.group(1)), "the library's " + named.group(1));
+        }
+        methods(code);
+    }
+
+    private static void methods(String code) {
+        Map<String, Set<String>> calls = new HashMap<>();
+        Matcher method = METHOD.matcher(code);
         int methods = 0;
         while (method.find()) {
+            String name = method.group(3);
+            String body = method.group(4);
             methods++;
-            due(method.group(2).split("\n").length <= 60, "longer than sixty lines: " + method.group().split("\n")[0]);
+            due(body.split("\n").length <= 60, "longer than sixty lines: " + method.group(2));
+            // A constructor bears the name of its class; all rows are made there and used again.
+            boolean isConstructor = Character.isUpperCase(name.charAt(0));
+            due(isConstructor || !body.matches("(?s).*\\bnew\\b.*"), "an object is made by a call: " + method.group(2));
+            Set<String> called = calls.computeIfAbsent(name, key -> new TreeSet<>());
+            Matcher call = CALLED.matcher(body);
+            while (call.find()) {
+                called.add(call.group(1));
+            }
         }
         due(methods > 60, "methods were found: " + methods);
+        for (String face : FACE) {
+            String name = face.substring(0, face.indexOf('('));
+            due(calls.containsKey(name), "the text of " + name + " was found");
+            int deep = depth(calls, name, new HashSet<>());
+            due(deep <= 8, name + " goes " + deep + " calls deep");
+        }
+    }
+
+    /** How many calls stand open at once, if none of these is open twice. */
+    private static int depth(Map<String, Set<String>> calls, String name, Set<String> open) {
+        if (!calls.containsKey(name) || !open.add(name)) {
+            return 0;
+        }
+        int deepest = 0;
+        for (String called : calls.get(name)) {
+            deepest = Math.max(deepest, depth(calls, called, open));
+        }
+        open.remove(name);
+        return deepest + 1;
     }
 }

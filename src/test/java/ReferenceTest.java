@@ -13,11 +13,15 @@ import java.util.TreeSet;
  * everything where the class is clever, and holds pairs in sets where the class has bits.
  */
 public final class ReferenceTest {
+    private static final int[] WILD = {Integer.MIN_VALUE, Integer.MIN_VALUE + 1, -1000, -33, -32, -31, -1, 8, 10, 31, 32,
+        33, 64, 256, 1 << 16, Integer.MAX_VALUE - 1, Integer.MAX_VALUE};
     private static int wrong = 0;
 
     public static void main(String[] args) {
         int calls = 0;
-        for (int seed = 0; seed < 1000; seed++) {
+        // More runs than these can be asked for by a number behind the name of the class.
+        int runs = args.length > 0 ? Integer.parseInt(args[0]) : 1000;
+        for (int seed = 0; seed < runs; seed++) {
             calls += run(seed);
         }
         System.out.println(calls + " calls, " + wrong + " answers are not as due");
@@ -61,7 +65,8 @@ public final class ReferenceTest {
         if (random.nextInt(12) == 0) {
             return someNight(random, model);
         }
-        return List.of(someCall(random, model.kinds.size()));
+        int[] call = someCall(random, model.kinds.size());
+        return List.of(random.nextInt(30) == 0 ? withAWildNumber(random, call) : call);
     }
 
     private static List<int[]> told(String text) {
@@ -79,7 +84,7 @@ public final class ReferenceTest {
         StringBuilder dancers = new StringBuilder();
         for (int i = 0; i < size; i++) {
             int kind = random.nextInt(6);
-            dancers.append('d').append(kind).append(kind == 3 ? random.nextInt(2) : random.nextInt(4)).append(';');
+            dancers.append('d').append(kind).append(figure(random, kind)).append(';');
         }
         StringBuilder pairs = new StringBuilder();
         int law = random.nextInt(5);
@@ -155,6 +160,21 @@ public final class ReferenceTest {
         }
     }
 
+    /** A call with one of its numbers far out of range. */
+    private static int[] withAWildNumber(Random random, int[] call) {
+        if (call.length > 1) {
+            call[1 + random.nextInt(call.length - 1)] = WILD[random.nextInt(WILD.length)];
+        }
+        return call;
+    }
+
+    private static int figure(Random random, int kind) {
+        if (kind == 3) {
+            return random.nextInt(2);
+        }
+        return random.nextInt(random.nextInt(3) == 0 ? 10 : 4);
+    }
+
     private static int number(Random random, int size) {
         return random.nextInt(25) == 0 ? random.nextInt(12) - 2 : random.nextInt(size);
     }
@@ -166,7 +186,7 @@ public final class ReferenceTest {
             int more = random.nextInt(9);
             for (int i = 0; i < more; i++) {
                 int kind = random.nextInt(60) == 0 ? random.nextInt(10) : random.nextInt(6);
-                text.append('d').append(kind).append(kind == 3 ? random.nextInt(2) : random.nextInt(4)).append(';');
+                text.append('d').append(kind).append(figure(random, kind)).append(';');
                 size++;
             }
         }
